@@ -21,6 +21,7 @@ public final class AnswersTest {
         pairsAndLocationsAreCounted();
         edgeToTheSameLocation();
         useNeedsTheBoundsAfterwards();
+        everyPairWithEveryValue();
         Check.finish();
     }
 
@@ -337,5 +338,32 @@ public final class AnswersTest {
         due("use: firstUse(0) when the bound is met", x.firstUse(0), 2);
         x.bound(4, 1, 1);
         due("use: usable(0) with the other's bound", x.usable(0), 0);
+    }
+
+    /** As many states as there can be, so that what holds them is full. */
+    private static void everyPairWithEveryValue() {
+        TimedPair x = new TimedPair();
+        x.edge(0, 0, 1, 0);
+        x.edge(1, 0, 2, 0);
+        for (int l = 1; l < 4; l++) {
+            x.edge(0, 4 * l, 0, 0);
+            x.edge(1, 4 * l, 0, 0);
+        }
+        due("every: pairs()", x.pairs(), 16);
+        due("every: locations(0)", x.locations(0), 15);
+        due("every: locations(1)", x.locations(1), 15);
+        for (int pair = 0; pair < 16; pair++) {
+            due("every: earliest(" + pair + ")", x.earliest(pair), 0);
+            for (int c = 0; c < 2; c++) {
+                due("every: atMost(" + pair + ", " + c + ", 0)", x.atMost(pair, c, 0), 1);
+                due("every: atLeast(" + pair + ", " + c + ", 6)", x.atLeast(pair, c, 6), 1);
+            }
+        }
+        // Waiting by 1 and resetting clock 0 over and over still lets clock 1 grow.
+        x.bound(0, 0, 1);
+        due("every: atLeast(0, 1, 6) with a bound", x.atLeast(0, 1, 6), 1);
+        x.drop(0);
+        due("every: atLeast(0, 1, 1) without the reset", x.atLeast(0, 1, 1), 1);
+        due("every: atLeast(0, 1, 2) without the reset", x.atLeast(0, 1, 2), 0);
     }
 }

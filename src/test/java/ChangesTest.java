@@ -19,6 +19,7 @@ public final class ChangesTest {
         guardOfEachClock();
         dropAnswers();
         dropMovesEveryPartOfTheEdgesBehind();
+        dropTakesThePartnerAway();
         boundAnswers();
         boundHolds();
         urgentAnswers();
@@ -249,6 +250,23 @@ public final class ChangesTest {
         x.urgent(3, 1);
         due("behind: atLeast(11, 1, 5)", x.atLeast(11, 1, 5), 1);
         due("behind: atLeast(11, 1, 6)", x.atLeast(11, 1, 6), 0);
+    }
+
+    private static void dropTakesThePartnerAway() {
+        for (int p = 0; p < 2; p++) {
+            for (int e = 0; e < 2; e++) {
+                TimedPair x = new TimedPair();
+                x.edge(p, 4, 0, 1);
+                x.edge(1 - p, 8, 0, 3);
+                String run = "partner " + p + " " + e + ": ";
+                due(run + "pairs()", x.pairs(), 2);
+                due(run + "drop", x.drop(e), 1);
+                due(run + "usable(0)", x.usable(0), 0);
+                due(run + "pairs() after it", x.pairs(), 1);
+                due(run + "locations(0) after it", x.locations(0), 1);
+                due(run + "locations(1) after it", x.locations(1), 1);
+            }
+        }
     }
 
     private static void boundAnswers() {
