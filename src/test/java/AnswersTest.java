@@ -267,7 +267,7 @@ public final class AnswersTest {
         due("ways: earliest(2) when one is left", x.earliest(2), 7);
     }
 
-    /** Clocks reset every 5 and every 6: both are at 0 together only where the multiples meet. */
+    /** Each clock is reset again and again: clock 0 at 0 and clock 1 at 1 may come together late, or never. */
     private static void waitingForAgreement() {
         int[] steps = {2, 3, 4, 5, 6};
         for (int one : steps) {
