@@ -1,14 +1,8 @@
-/** Promises 8 to 15: the calls that answer about the reached states. */
+/** Promises 8 to 15 in runs of ordinary calls; AnswersBoundaryTest has their boundary cases. */
 public final class AnswersTest {
-    private static final int BAD_ARG = TimedPair.BAD_ARG;
     private static final int NONE = TimedPair.NONE;
-    private static final int[] FAR = {Integer.MIN_VALUE, -1, Integer.MAX_VALUE};
 
     public static void main(String[] args) {
-        wrongArguments();
-        askingChangesNothing();
-        lastTime();
-        movesAtTheLastTime();
         boundAfterAMove();
         boundAfterAJointMove();
         jointGuardsAreAskedBeforeResets();
@@ -34,100 +28,6 @@ public final class AnswersTest {
         int e = x.edge(p, ends, resets, 0);
         x.guard(e, c, least, greatest);
         return e;
-    }
-
-    private static void wrongArguments() {
-        TimedPair x = new TimedPair();
-        x.edge(0, 4, 0, 0);
-        int[] wrongPairs = {Integer.MIN_VALUE, -1, 16, Integer.MAX_VALUE};
-        for (int pair : wrongPairs) {
-            due("reached(" + pair + ")", x.reached(pair), BAD_ARG);
-            due("earliest(" + pair + ")", x.earliest(pair), BAD_ARG);
-            due("atMost(" + pair + ", 0, 0)", x.atMost(pair, 0, 0), BAD_ARG);
-            due("atLeast(" + pair + ", 0, 0)", x.atLeast(pair, 0, 0), BAD_ARG);
-        }
-        for (int far : FAR) {
-            due("atMost(0, " + far + ", 0)", x.atMost(0, far, 0), BAD_ARG);
-            due("atLeast(0, " + far + ", 0)", x.atLeast(0, far, 0), BAD_ARG);
-            due("atMost(0, 0, " + far + ")", x.atMost(0, 0, far), BAD_ARG);
-            due("atLeast(0, 0, " + far + ")", x.atLeast(0, 0, far), BAD_ARG);
-            due("locations(" + far + ")", x.locations(far), BAD_ARG);
-            due("usable(" + far + ")", x.usable(far), NONE);
-            due("firstUse(" + far + ")", x.firstUse(far), NONE);
-        }
-        due("atMost(0, 2, 0)", x.atMost(0, 2, 0), BAD_ARG);
-        due("atLeast(0, 2, 0)", x.atLeast(0, 2, 0), BAD_ARG);
-        due("atMost(0, 0, 7)", x.atMost(0, 0, 7), BAD_ARG);
-        due("atLeast(0, 0, 7)", x.atLeast(0, 0, 7), BAD_ARG);
-        due("atMost(15, 1, 7) of a pair not reached", x.atMost(15, 1, 7), BAD_ARG);
-        due("locations(2)", x.locations(2), BAD_ARG);
-        due("usable(1)", x.usable(1), NONE);
-        due("firstUse(1)", x.firstUse(1), NONE);
-        due("usable(12)", x.usable(12), NONE);
-        due("firstUse(12)", x.firstUse(12), NONE);
-    }
-
-    private static void askingChangesNothing() {
-        TimedPair x = new TimedPair();
-        guarded(x, 0, 4, 1, 0, 2, 3);
-        for (int time = 0; time < 3; time++) {
-            due("asked again: earliest(1)", x.earliest(1), 2);
-            due("asked again: firstUse(0)", x.firstUse(0), 2);
-            due("asked again: pairs()", x.pairs(), 2);
-            due("asked again: locations(0)", x.locations(0), 3);
-            due("asked again: atMost(1, 0, 0)", x.atMost(1, 0, 0), 1);
-            due("asked again: atLeast(1, 0, 6)", x.atLeast(1, 0, 6), 1);
-            due("asked again: reached(4)", x.reached(4), 0);
-            due("asked again: edges()", x.edges(), 1);
-        }
-    }
-
-    /** Three edges that take process 0 to location 3 at time 18 and not before. */
-    private static TimedPair eighteen() {
-        TimedPair x = new TimedPair();
-        guarded(x, 0, 4, 1, 0, 6, 7);
-        guarded(x, 0, 9, 1, 0, 6, 7);
-        guarded(x, 0, 14, 1, 0, 6, 7);
-        return x;
-    }
-
-    private static void lastTime() {
-        for (int more = 0; more <= 6; more++) {
-            TimedPair x = eighteen();
-            x.edge(1, 4, 0, 1);
-            x.edge(0, 3, 0, 3);
-            x.guard(4, 0, more, 7);
-            boolean inTime = more <= 2;
-            String run = "last time " + more + ": ";
-            due(run + "earliest(3)", x.earliest(3), 18);
-            due(run + "firstUse(3)", x.firstUse(3), inTime ? 18 + more : NONE);
-            due(run + "firstUse(4)", x.firstUse(4), inTime ? 18 + more : NONE);
-            due(run + "usable(4)", x.usable(4), inTime ? 1 : 0);
-            due(run + "earliest(4)", x.earliest(4), inTime ? 18 + more : NONE);
-            due(run + "reached(4)", x.reached(4), inTime ? 1 : 0);
-            due(run + "pairs()", x.pairs(), inTime ? 5 : 4);
-            due(run + "locations(1)", x.locations(1), inTime ? 3 : 1);
-            due(run + "atLeast(3, 0, 2)", x.atLeast(3, 0, 2), 1);
-            due(run + "atLeast(3, 0, 3)", x.atLeast(3, 0, 3), 0);
-        }
-    }
-
-    private static void movesAtTheLastTime() {
-        TimedPair x = eighteen();
-        x.edge(0, 15, 0, 4);
-        x.edge(1, 4, 0, 2);
-        x.guard(4, 0, 2, 7);
-        guarded(x, 0, 11, 0, 0, 2, 2);
-        int on = x.edge(1, 9, 0, 0);
-        int late = guarded(x, 1, 14, 0, 0, 3, 7);
-        due("at last: firstUse(4)", x.firstUse(4), 20);
-        due("at last: earliest(7)", x.earliest(7), 20);
-        due("at last: earliest(11)", x.earliest(11), 20);
-        due("at last: earliest(10)", x.earliest(10), 20);
-        due("at last: firstUse(on)", x.firstUse(on), 20);
-        due("at last: reached(15)", x.reached(15), 0);
-        due("at last: usable(late)", x.usable(late), 0);
-        due("at last: firstUse(late)", x.firstUse(late), NONE);
     }
 
     private static void boundAfterAMove() {
