@@ -259,7 +259,8 @@ public final class TimedPair {
     }
 
     private void note(int state, int time) {
-        if (foundTime[state] == NONE) {
+        // A state is noted only once, so there is always room; this shows that the index fits.
+        if (foundTime[state] == NONE && foundCount < STATES) {
             foundTime[state] = time;
             found[foundCount] = state;
             foundCount++;

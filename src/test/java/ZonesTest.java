@@ -1,7 +1,21 @@
-/** Long runs of generated calls, each answer compared with that of ZoneModel. */
+/** Every state there can be, and long runs of generated calls: each answer compared with that of ZoneModel. */
 public final class ZonesTest {
     private static final int RUNS = 600;
     private static final int CALLS = 512;
+
+    // p, ends and resets of silent edges, then least and greatest value of clock 0 and of clock 1: by
+    // these every pair is come to with every two values of the clocks, with some of them very late.
+    private static final int[][] EVERY = {
+        {0, 4, 0, 0, 7, 0, 7},
+        {0, 9, 0, 0, 7, 0, 7},
+        {0, 14, 0, 0, 7, 0, 7},
+        {1, 4, 2, 3, 4, 0, 7},
+        {1, 9, 2, 5, 5, 0, 7},
+        {1, 14, 2, 2, 4, 0, 7},
+        {0, 15, 1, 0, 7, 0, 7},
+        {0, 0, 2, 0, 7, 4, 7},
+        {0, 1, 1, 0, 7, 0, 7},
+    };
 
     // The same numbers in every run of the test, so that what fails once fails again.
     private long seed = 20261115;
@@ -13,6 +27,9 @@ public final class ZonesTest {
 
     public static void main(String[] args) {
         ZonesTest test = new ZonesTest();
+        for (int pair = 0; pair < 16; pair++) {
+            test.everyState(pair);
+        }
         for (int run = 0; run < RUNS; run++) {
             test.oneRun(run);
         }
@@ -38,12 +55,38 @@ public final class ZonesTest {
         }
     }
 
-    private void oneRun(int number) {
+    private void begin(String name) {
         x = new TimedPair();
         model = new ZoneModel();
-        run = "run " + number + ": ";
-        sharp = number % 4;
+        run = name + ": ";
         calls = 0;
+    }
+
+    /** A joint move that asks for one pair and one value of each clock tells of a single state. */
+    private void everyState(int pair) {
+        begin("every state of pair " + pair);
+        for (int e = 0; e < EVERY.length; e++) {
+            int[] row = EVERY[e];
+            edge(row[0], row[1], row[2], 0);
+            guard(e, 0, row[3], row[4]);
+            guard(e, 1, row[5], row[6]);
+        }
+        int send = EVERY.length;
+        edge(0, 5 * (pair % 4), 0, 1);
+        edge(1, 5 * (pair / 4), 0, 3);
+        for (int one = 0; one <= 6; one++) {
+            guard(send, 0, one, one);
+            for (int other = 0; other <= 6; other++) {
+                guard(send, 1, other, other);
+                due("usable(" + send + ")", x.usable(send), 1);
+                due("firstUse(" + send + ")", x.firstUse(send), model.firstUse(send));
+            }
+        }
+    }
+
+    private void oneRun(int number) {
+        begin("run " + number);
+        sharp = number % 4;
         for (int e = below(13); e > 0; e--) {
             change(0);
             change(2);
@@ -89,6 +132,10 @@ public final class ZonesTest {
         int ends = about(0, 15);
         int resets = about(0, 3);
         int sign = below(2) == 0 ? 0 : about(0, 4);
+        edge(p, ends, resets, sign);
+    }
+
+    private void edge(int p, int ends, int resets, int sign) {
         due("edge(" + p + ", " + ends + ", " + resets + ", " + sign + ")",
             x.edge(p, ends, resets, sign), model.edge(p, ends, resets, sign));
     }
@@ -101,6 +148,10 @@ public final class ZonesTest {
         } else if (sharp > 1 && greatest < least) {
             greatest = 7;
         }
+        guard(e, c, least, greatest);
+    }
+
+    private void guard(int e, int c, int least, int greatest) {
         due("guard(" + e + ", " + c + ", " + least + ", " + greatest + ")",
             x.guard(e, c, least, greatest), model.guard(e, c, least, greatest));
     }
