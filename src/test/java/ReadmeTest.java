@@ -69,12 +69,16 @@ public final class ReadmeTest {
         while (name.find()) {
             named.add(name.group(1));
         }
-        try (Stream<Path> files = Files.list(Path.of("src/test/java"))) {
-            Set<String> tests = files.map(file -> file.getFileName().toString())
-                .filter(file -> file.endsWith("Test.java"))
+        holds("tests " + named, named.equals(classesIn("src/test/java", "Test")));
+    }
+
+    /** The names of the classes in this folder that end like this. */
+    private static TreeSet<String> classesIn(String folder, String end) throws IOException {
+        try (Stream<Path> files = Files.list(Path.of(folder))) {
+            return files.map(file -> file.getFileName().toString())
+                .filter(file -> file.endsWith(end + ".java"))
                 .map(file -> file.replace(".java", ""))
                 .collect(Collectors.toCollection(TreeSet::new));
-            holds("tests " + named, named.equals(tests));
         }
     }
 
@@ -97,7 +101,7 @@ public final class ReadmeTest {
     private static Path checkoutIn(Path top, List<Block> blocks) throws IOException {
         Path checkout = top.resolve("main");
         copy(Path.of("src"), checkout.resolve("src"));
-        copy(Path.of("../shared/tests"), top.resolve("shared/tests"));
+        copy(Path.of("../shared/tests").toRealPath(), top.resolve("shared/tests"));
         for (Block block : blocks) {
             if (block.kind.equals("java")) {
                 Files.writeString(checkout.resolve("Example.java"), block.text);
@@ -125,11 +129,12 @@ public final class ReadmeTest {
     }
 
     private static void commandsRunAsWritten(List<Block> blocks, Path checkout) throws IOException, InterruptedException {
+        String name = classesIn("../shared/tests", "").first();
         int run = 0;
         for (int i = 0; i < blocks.size(); i++) {
             Block block = blocks.get(i);
             if (block.kind.equals("sh") && !block.text.equals(ALL_TESTS)) {
-                String printed = outputOf(block.text, checkout);
+                String printed = outputOf(block.text.replace("NAME", name), checkout);
                 boolean told = i + 1 < blocks.size() && blocks.get(i + 1).kind.equals("text");
                 holds(block.text + "printed\n" + printed + "which", !told || printed.equals(blocks.get(i + 1).text));
                 run++;
@@ -140,7 +145,7 @@ public final class ReadmeTest {
 
     private static String outputOf(String commands, Path checkout) throws IOException, InterruptedException {
         Process process = new ProcessBuilder("sh", "-e", "-c", commands)
-            .directory(checkout.toFile()).redirectErrorStream(true).start();
+            .directory(checkout.toFile()).redirectError(ProcessBuilder.Redirect.INHERIT).start();
         String printed = new String(process.getInputStream().readAllBytes());
         Check.due("README.md, " + commands + "exit code", process.waitFor(), 0);
         return printed;
